@@ -1,0 +1,199 @@
+/** Promises 10 and 11: where a text has its fault, and villages by texts without one. */
+public final class ReadingTest {
+    private static final int NOTHING = 1;
+    private static final int NONE = EmptyHouse.NONE;
+
+    public static void main(String[] args) {
+        goodTexts();
+        faultsOfPeople();
+        faultsOfHours();
+        faultsOfDebts();
+        refused();
+        village();
+        villageAnew();
+        Due.end();
+    }
+
+    private static void fault(String text, int due) {
+        EmptyHouse x = new EmptyHouse();
+        Due.write(x, 1, text);
+        Due.is("fault of '" + text + "'", x.fault(1), due);
+        int people = (int) text.chars().filter(c -> c == 'p').count();
+        Due.is("village of '" + text + "'", x.village(1), due == NONE ? people : EmptyHouse.STATE);
+        Due.is("people of '" + text + "'", x.count(0), due == NONE ? people : 0);
+    }
+
+    private static void goodTexts() {
+        fault("", NONE);
+        fault(" ", NONE);
+        fault("   ph", NONE);
+        fault("ph   ", NONE);
+        fault("phpkpspyphph", NONE);
+        fault("ph pmA plB", NONE);
+        fault("pha0-0", NONE);
+        fault("pha0-11a3-4a3-4", NONE);
+        fault("pha00-011", 8);
+        fault("pha00-01", NONE);
+        fault("pha9-10a11-11", NONE);
+        fault("ph ph dAB:99:9", NONE);
+        fault("ph ph dAB:1:0dBA:01:9", NONE);
+        fault("ph ph dAB:1:0 ph dAC:2:3 pkdDA:1:1", NONE);
+        fault("phphdAB:1:1dAB:1:1dAB:1:1dAB:1:1dAB:1:1dAB:1:1dAB:1:1dAB:1:1 ", NONE);
+        fault("plA", 2);
+        fault("ph plA", NONE);
+        fault("ph" + " ".repeat(118), NONE);
+    }
+
+    private static void faultsOfPeople() {
+        fault("p", 1);
+        fault("p h", 1);
+        fault("px", 1);
+        fault("pH", 1);
+        fault("x", 0);
+        fault("  h", 2);
+        fault("ph h", 3);
+        fault("pm", 2);
+        fault("ph pl", 5);
+        fault("ph pmB", 5);
+        fault("ph pm A", 5);
+        fault("ph pma", 5);
+        fault("ph plB", 5);
+        fault("ph pm@", 5);
+        fault("ph plAA", 6);
+        fault("phphphphphphph", 12);
+        fault("phphphphphph p", 13);
+        fault("phphphphphphpmF", 12);
+        fault("phphphphphpmF", 12);
+        fault("phphphphphpmE", NONE);
+        fault("ph\u0000", 2);
+        fault("ph\u00e9", 2);
+        fault("ph\u00ff", 2);
+        fault("ph\t", 2);
+    }
+
+    private static void faultsOfHours() {
+        fault("pha", 3);
+        fault("phax", 3);
+        fault("pha-", 3);
+        fault("pha1", 4);
+        fault("pha1 -2", 4);
+        fault("pha1:2", 4);
+        fault("pha1-", 5);
+        fault("pha1-x", 5);
+        fault("pha1- 2", 5);
+        fault("pha12-12", 5);
+        fault("pha12", 5);
+        fault("pha99", 5);
+        fault("pha111-11", 5);
+        fault("pha1-12", 7);
+        fault("pha1-12 ", 7);
+        fault("pha1-111", 7);
+        fault("pha5-4", 6);
+        fault("pha5-4 ph", 6);
+        fault("pha5-04", 7);
+        fault("pha11-10", 8);
+        fault("pha1-2a", 7);
+        fault("pha1-2b", 6);
+        fault("ph a1-2", 3);
+        fault("pha1-2 a3-4", 7);
+        fault("ph pmAa3-2", 10);
+        fault("ph pmaA", 5);
+    }
+
+    private static void faultsOfDebts() {
+        fault("d", 1);
+        fault("dAB:1:1", 1);
+        fault("phdAB:1:1ph", 4);
+        fault("phphd", 5);
+        fault("phphdA", 6);
+        fault("phphdAA:1:1", 6);
+        fault("phphdAC:1:1", 6);
+        fault("phphdCA:1:1", 5);
+        fault("phphd AB:1:1", 5);
+        fault("phphdA B:1:1", 6);
+        fault("phphdAB", 7);
+        fault("phphdAB1:1", 7);
+        fault("phphdAB:", 8);
+        fault("phphdAB::1", 8);
+        fault("phphdAB:x", 8);
+        fault("phphdAB: 1:1", 8);
+        fault("phphdAB:0:1", 9);
+        fault("phphdAB:00:1", 10);
+        fault("phphdAB:0", 9);
+        fault("phphdAB:1", 9);
+        fault("phphdAB:100:1", 10);
+        fault("phphdAB:1-1", 9);
+        fault("phphdAB:1:", 10);
+        fault("phphdAB:1:x", 10);
+        fault("phphdAB:1: 1", 10);
+        fault("phphdAB:1:11", 11);
+        fault("phphdAB:1:1a1-2", 11);
+        fault("phphdAB:1:1dAB:1:1dAB:1:1dAB:1:1dAB:1:1dAB:1:1dAB:1:1dAB:1:1d", 60);
+        fault("phphdAB:1:1dAB:1:1dAB:1:1dAB:1:1dAB:1:1dAB:1:1dAB:1:1dAB:1:1 dxx", 61);
+    }
+
+    private static void refused() {
+        EmptyHouse x = new EmptyHouse();
+        Due.is("fault of text 4", x.fault(4), -1);
+        Due.is("fault of text -1", x.fault(-1), -1);
+        Due.finding(x, "fault of a missing one", x.fault(3), NOTHING);
+        Due.is("village of text 4", x.village(4), -1);
+        Due.is("village of text -1", x.village(-1), -1);
+        Due.finding(x, "village of a missing one", x.village(3), NOTHING);
+        Due.is("findings", x.findings(NOTHING), 2);
+    }
+
+    private static void village() {
+        EmptyHouse x = Due.village(" pha1-3a6-8 pk psa11-11 pmAa0-11 plB py dAB:10:2dFE:07:0 ");
+        int[][] people = {{0, NONE, 0x1CE, 5}, {1, NONE, 0, 5}, {2, NONE, 0x800, 5}, {3, 0, 0xFFF, 5}, {4, 1, 0, 5},
+            {5, NONE, 0, 5}};
+        for (int p = 0; p < 6; p++) {
+            for (int what = 0; what < 4; what++) {
+                Due.told(x, "one(" + p + ", " + what + ")", x.one(p, what), 1, people[p][what]);
+            }
+        }
+        int[][] debts = {{0, 1, 10, 2, NONE}, {5, 4, 7, 0, NONE}};
+        for (int d = 0; d < 2; d++) {
+            for (int what = 0; what < 5; what++) {
+                Due.told(x, "debt(" + d + ", " + what + ")", x.debt(d, what), 1, debts[d][what]);
+            }
+        }
+        Due.is("people", x.count(0), 6);
+        Due.is("debts", x.count(1), 2);
+    }
+
+    private static void villageAnew() {
+        EmptyHouse x = Due.village("pha0-5 pha3-9 dAB:50:1");
+        x.cards(0, 9);
+        x.law(2);
+        Due.is("pay at 8 by law 2", x.pay(0, 8), EmptyHouse.STATE);
+        x.law(0);
+        Due.is("pay", x.pay(0, 3), 53);
+        x.law(1);
+        x.keep(0);
+        x.keep(2);
+        long before = x.digest();
+        Due.write(x, 0, "ph ph dAA:1:1");
+        x.text(1, 5);
+        Due.is("fault", x.fault(0), 8);
+        Due.is("a village by a text with a fault", x.village(0), EmptyHouse.STATE);
+        Due.is("what it was stays", x.count(1), 1);
+        Due.is("what was paid stays", x.count(2), 1);
+        Due.is("kept ones stay", x.count(5), 2);
+        Due.told(x, "cards stay", x.one(0, 3), 1, 9);
+        Due.write(x, 0, "pha0-5 pha3-9 dAB:50:1");
+        x.tear(0);
+        EmptyHouse y = new EmptyHouse();
+        Due.is("the digest tells of one text more", before == x.digest() ? 1 : 0, 0);
+        Due.is("village anew", x.village(0), 2);
+        Due.is("nothing paid", x.count(2), 0);
+        Due.is("none kept", x.count(5), 0);
+        Due.told(x, "cards are 5 again", x.one(0, 3), 1, 5);
+        Due.is("the law is 0 again", x.law(0), 0);
+        Due.is("a village of blanks", x.village(1), 0);
+        Due.is("no people", x.count(0), 0);
+        Due.is("no debts", x.count(1), 0);
+        Due.is("no debt", x.debt(0, 0), -1);
+        Due.is("a new one has none", y.count(0), 0);
+    }
+}
