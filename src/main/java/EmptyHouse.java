@@ -9,7 +9,7 @@ public final class EmptyHouse {
     private static final int ROWS = 6, ROW_MOST = 60;
     private static final int TEXTS = 4, TEXT_MOST = 120;
     private static final int MISSING = -1;
-    private static final byte BLANK = 32;
+    private static final int BLANK = 32;
     private static final int HOURS = 12;
     private static final int PEOPLE_MOST = 6, DEBTS_MOST = 8, DEBT_SETS = 1 << DEBTS_MOST;
     private static final int LAWS = 4, DOG_LAW = 1, LATE_LAW = 2, CONTRARY_LAW = 3;
@@ -124,7 +124,7 @@ public final class EmptyHouse {
         if (n < 0) {
             return find(SIZE);
         }
-        Arrays.fill(texts[t], BLANK);
+        Arrays.fill(texts[t], (byte) BLANK);
         textSizes[t] = n;
         return n;
     }
@@ -674,7 +674,9 @@ public final class EmptyHouse {
                 if (live.debtor[e] == live.debtor[d]) {
                     return 2;
                 }
-                sameHouse |= live.creditor[e] == live.creditor[d];
+                if (live.creditor[e] == live.creditor[d]) {
+                    sameHouse = true;
+                }
             }
         }
         return sameHouse ? 3 : 0;
@@ -1052,7 +1054,7 @@ public final class EmptyHouse {
             return place < size && signs[place] >= FIRST_FIGURE && signs[place] <= FIRST_FIGURE + 9;
         }
 
-        // What reads below does nothing once reading has failed: the first fault stays where it is.
+        // What reads below takes no sign once reading has failed, so that the first fault keeps its place.
 
         private void readSign(int sign) {
             if (!failed && isNext(sign)) {
@@ -1100,7 +1102,9 @@ public final class EmptyHouse {
             if (!failed && isFigureNext()) {
                 number = 10 * number + readFigure();
             }
-            failed |= number < least || number > most;
+            if (number < least || number > most) {
+                failed = true;
+            }
             return number;
         }
     }

@@ -64,6 +64,10 @@ public final class CallsTest {
         z.law(1);
         Due.told(z, "dogs are in", z.few(4, 1), NONE, 0);
         few(z, 5, 1, 2, 5);
+        String ring = "phphphphphph dAB:1:1dBC:1:1dCD:1:1dDE:1:1dEF:1:1dFA:1:1";
+        few(Due.village(ring), 11, 6, 6, 63);
+        few(Due.village(ring), 11, 5, 6, 63);
+        few(Due.village(ring), 11, 4, 5, 31);
         // Of as few ones the least bits.
         few(Due.village("phphphph dCD:1:1dAD:1:1dBD:1:1"), 11, 1, 2, 9);
     }
@@ -94,6 +98,11 @@ public final class CallsTest {
         Due.told(x, "for nothing", x.call(), 0, 0);
         x.habit(1, 1, 1);
         Due.told(x, "A at 1 rather than at 4", x.call(), 1, 6);
+        // B's hours 0 and 3 are as they were for all other hours: A pays B in 0, the call lets C pay B in 3.
+        EmptyHouse w = Due.village("pha0-0 pha0-0a3-3 pha4-4 dAB:1:2dCB:1:2");
+        Due.told(w, "C at 3", w.call(), 203, 24 - 6 - 5);
+        EmptyHouse v = Due.village("pha0-0a6-6 pha0-0 pha3-3a6-6 dAB:1:9dAC:1:9");
+        Due.told(v, "A at 3 rather than at 6", v.call(), 3, 27 - 5);
         long before = x.digest();
         x.call();
         Due.is("a call changes nothing", x.digest() == before ? 1 : 0, 1);
@@ -128,6 +137,10 @@ public final class CallsTest {
         x.law(3);
         x.habit(1, 4, 1);
         Due.told(x, "by law 3 B is paid while in", x.stay(1), 4, 0);
+        // At each of two hours B is paid once; staying in at one of them leaves only the other one.
+        EmptyHouse u = Due.village("pha0-8 pha1-1a4-4a8-8 pha0-8 dAB:10:1dCB:10:2");
+        Due.told(u, "hour 1: 4 and 8 instead of 1 and 4", u.stay(1), 1, 8 + 4 * 2 - 4 - 2);
+        Due.told(u, "nobody owes A", u.stay(0), 0, 0);
         // C pays B either at 1 or at 3; whether B stays in at 1 or at 3 decides.
         EmptyHouse y = Due.village("pha1-1a3-3 pha1-3 pha1-1a3-3 dAB:9:1dCB:9:2");
         Due.told(y, "the last of them", y.stay(1), 2, 0);

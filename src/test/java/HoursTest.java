@@ -119,6 +119,8 @@ public final class HoursTest {
         for (int bad : new int[] {12, -1, -8, -10, Integer.MAX_VALUE, Integer.MIN_VALUE}) {
             Due.round(x, 0, 11, 1, 2, bad);
             Due.finding(x, "judge with " + bad, x.judge(0), UNLIKE);
+            Due.round(x, 0, bad, 1, 2, 3);
+            Due.finding(x, "judge with " + bad + " first", x.judge(0), UNLIKE);
         }
     }
 

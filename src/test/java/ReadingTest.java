@@ -8,6 +8,7 @@ public final class ReadingTest {
         faultsOfPeople();
         faultsOfHours();
         faultsOfDebts();
+        textsUpToTheEnd();
         refused();
         village();
         villageAnew();
@@ -132,6 +133,19 @@ public final class ReadingTest {
         fault("phphdAB:1:1dAB:1:1dAB:1:1dAB:1:1dAB:1:1dAB:1:1dAB:1:1dAB:1:1 dxx", 61);
     }
 
+    /** Each beginning of an item at the end of the greatest text: its fault is the text's size. */
+    private static void textsUpToTheEnd() {
+        String[] whole = {"", "phphpmA", "phphplAa10-11", "phphpka1-1", "phphdAB:10:9"};
+        String[] cut = {"p", "phpm", "phpha", "phpha1", "phpha11", "phpha1-", "phpha11-", "phphd", "phphdA", "phphdAB",
+            "phphdAB:", "phphdAB:1", "phphdAB:10", "phphdAB:10:"};
+        for (String text : whole) {
+            fault(" ".repeat(120 - text.length()) + text, NONE);
+        }
+        for (String text : cut) {
+            fault(" ".repeat(120 - text.length()) + text, 120);
+        }
+    }
+
     private static void refused() {
         EmptyHouse x = new EmptyHouse();
         Due.is("fault of text 4", x.fault(4), -1);
@@ -189,7 +203,11 @@ public final class ReadingTest {
         Due.is("nothing paid", x.count(2), 0);
         Due.is("none kept", x.count(5), 0);
         Due.told(x, "cards are 5 again", x.one(0, 3), 1, 5);
-        Due.is("the law is 0 again", x.law(0), 0);
+        Due.is("the law is 0 again", x.law(3), 0);
+        Due.is("the same village", x.village(0), 2);
+        Due.is("the law is 0 once more", x.law(2), 0);
+        Due.is("the same village again", x.village(0), 2);
+        Due.is("the law is 0 ever again", x.law(0), 0);
         Due.is("a village of blanks", x.village(1), 0);
         Due.is("no people", x.count(0), 0);
         Due.is("no debts", x.count(1), 0);

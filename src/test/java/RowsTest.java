@@ -152,6 +152,11 @@ public final class RowsTest {
         Due.told(x, "mean of least ints", x.mean(0), 1, Integer.MIN_VALUE);
         Due.round(x, 1, 8);
         Due.told(x, "mean of one", x.mean(1), 1, 8);
+        x.row(1, 60);
+        x.lay(1, 59, 599);
+        Due.told(x, "mean of sixty", x.mean(1), 1, 9);
+        x.lay(1, 59, 480);
+        Due.told(x, "mean of sixty again", x.mean(1), 1, 8);
         Due.is("mean 6", x.mean(6), -1);
         Due.is("mean -1", x.mean(-1), -1);
         Due.finding(x, "mean of a missing one", x.mean(3), NOTHING);

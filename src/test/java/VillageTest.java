@@ -44,6 +44,8 @@ public final class VillageTest {
         Due.is("shared", x.mark(3, 3), 0);
         Due.is("lodge as shared", x.mark(4, 3), 1);
         Due.is("lodge: 2 3 and 6 7 8 9", x.mark(4, 4), 6);
+        EmptyHouse most = Due.village("ps ph dBA:1:1dBA:1:1dBA:1:1dBA:1:1dBA:1:1dBA:1:1dBA:1:1dBA:1:1");
+        Due.is("sickroom: eight are owed to it", most.mark(0, 2), 8);
         x.habit(1, 0, 1);
         x.habit(1, 1, 1);
         Due.is("kennel: hour 0 more, hour 1 not", x.mark(1, 1), 3);
