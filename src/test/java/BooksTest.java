@@ -8,6 +8,8 @@ public final class BooksTest {
         unpay();
         paid();
         keepAndOn();
+        threePlaces();
+        payByWhatWasPaid();
         must();
         mustRefused();
         liars();
@@ -96,6 +98,49 @@ public final class BooksTest {
         x.habit(1, 4, 0);
         Due.is("whatever the habits are now", x.on(2), 1);
         Due.is("kept", x.count(5), 2);
+    }
+
+    /** Each place keeps a book of its own; on() brings all of it back, and undoes what was paid behind it. */
+    private static void threePlaces() {
+        EmptyHouse x = threePeople();
+        for (int k = 0; k < 3; k++) {
+            Due.is("keep in " + k, x.keep(k), k);
+            Due.is("kept so far", x.count(5), k + 1);
+            x.pay(k, k);
+        }
+        for (int k = 2; k >= 0; k--) {
+            Due.is("on from " + k, x.on(k), k);
+            for (int d = 0; d < 4; d++) {
+                Due.told(x, "debt " + d + " from place " + k, x.debt(d, 4), 1, d < k ? d : NONE);
+            }
+        }
+        Due.is("on keeps what is kept", x.count(5), 3);
+        Due.is("on from 2 again", x.on(2), 2);
+        x.law(2);
+        x.habit(0, 0, 0);
+        Due.is("whatever law and habits are now", x.on(2), 2);
+        Due.told(x, "paid in 0 by one who is in", x.debt(0, 4), 1, 0);
+        Due.told(x, "what is paid costs as it did", x.paid(), 10 + 22, 66 + 88);
+    }
+
+    /** "By what was PAID in that HOUR": neither two sums of one, nor two into one house; all else goes. */
+    private static void payByWhatWasPaid() {
+        EmptyHouse x = Due.village("pha0-11pha0-11pha0-11 dAB:1:0dAC:1:0dCB:1:0dBA:1:0dCA:1:0");
+        for (int t = 0; t < 12; t++) {
+            Due.is("A to B in " + t, x.pay(0, t), 1);
+            Due.is("A to C in " + t, x.pay(1, t), STATE);
+            Due.is("C to B in " + t, x.pay(2, t), STATE);
+            Due.is("A to C in another hour", x.pay(1, (t + 1) % 12), 1);
+            Due.is("B to A in " + t, x.pay(3, t), 1);
+            Due.is("C to A in " + t + ", where B's is", x.pay(4, t), STATE);
+            Due.is("A to B is not paid any more", x.unpay(0), t);
+            Due.is("C to B in " + t + " now", x.pay(2, t), 1);
+            Due.is("A to B in " + t + " not now", x.pay(0, t), STATE);
+            for (int d = 1; d < 4; d++) {
+                Due.is("unpay " + d, x.unpay(d), d == 1 ? (t + 1) % 12 : t);
+            }
+            Due.is("nothing is paid", x.count(2), 0);
+        }
     }
 
     private static EmptyHouse sixHouses() {

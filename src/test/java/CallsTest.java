@@ -8,9 +8,13 @@ public final class CallsTest {
         fewRefused();
         call();
         callOfAlike();
+        lastCallOfAll();
         stay();
+        stayAtTheEdges();
         against();
+        againstChangesNothing();
         family();
+        familyOfSix();
         Due.end();
     }
 
@@ -124,6 +128,39 @@ public final class CallsTest {
         Due.told(y, "B at 2 is cheaper", y.call(), 102, -5);
     }
 
+    private static void lastCallOfAll() {
+        EmptyHouse x = Due.village("pha0-11pha0-11pha0-11pha0-11pha0-11pha0-10 dAF:9:1");
+        Due.told(x, "F at 11 is the only call", x.call(), 511, -5);
+        x.cards(5, 0);
+        Due.told(x, "for nothing", x.call(), 511, 0);
+        x.cards(5, 99);
+        Due.told(x, "for all cards there are", x.call(), 511, -99);
+        x.habit(5, 11, 1);
+        Due.told(x, "there is no such call any more", x.call(), NONE, -99);
+        EmptyHouse y = Due.village("ph");
+        Due.told(y, "a call though there are no debts", y.call(), 0, -5);
+        // More debts paid go ahead of costs and cards: B at 11 pays one more than A, whose call is for nothing.
+        EmptyHouse z = Due.village("pha11-11 ph dAB:1:9");
+        z.cards(0, 0);
+        z.cards(1, 99);
+        Due.told(z, "B at 11", z.call(), 111, 9 - 99);
+    }
+
+    private static void stayAtTheEdges() {
+        EmptyHouse x = Due.village("pha0-11 pha11-11 dAB:10:3");
+        Due.told(x, "in at 11, paid nothing", x.stay(1), 11, -43);
+        EmptyHouse y = Due.village("pha0-11 pha0-0a11-11 dAB:10:9");
+        Due.told(y, "in at 0, paid at 11", y.stay(1), 0, 99);
+        EmptyHouse z = Due.village("ph pha3-3a7-7");
+        Due.told(z, "of alike ones the first", z.stay(1), 3, 0);
+        Due.told(z, "one who is never out", z.stay(0), NONE, 0);
+        // Staying in at 2 or at 4 leaves what B is paid as it is; at 3 it is paid later.
+        EmptyHouse w = Due.village("pha3-3a5-5 pha2-5 dAB:10:1");
+        Due.told(w, "in at 3 rather than at 2", w.stay(1), 3, 2);
+        w.pay(0, 3);
+        Due.told(w, "whatever is paid", w.stay(1), 3, 2);
+    }
+
     private static void stay() {
         EmptyHouse x = Due.village("pha0-11 pha2-2a5-5 dAB:10:3");
         Due.told(x, "paid at 5 instead of 2", x.stay(1), 2, 9);
@@ -193,5 +230,28 @@ public final class CallsTest {
         Due.is("below 0", x.family(-1), -1);
         Due.is("the least int", x.family(Integer.MIN_VALUE), -1);
         Due.is("the greatest int", x.family(Integer.MAX_VALUE), -1);
+    }
+
+    private static void againstChangesNothing() {
+        EmptyHouse x = Due.village("pha0-3 pha0-3 dAB:99:9dBA:1:0");
+        long before = x.digest();
+        Due.told(x, "99 against 1", x.against(0, 1), 98, 0);
+        Due.told(x, "1 against 99", x.against(1, 0), 98, 0);
+        Due.is("nothing is changed", x.digest() == before ? 1 : 0, 1);
+        Due.told(x, "the debt is as it was", x.debt(0, 2), 1, 99);
+        EmptyHouse y = Due.village("phphph dAB:1:1dBC:1:1dCA:1:1dAC:1:1");
+        Due.is("the next one of a ring of three", y.against(0, 1), STATE);
+        Due.is("to the same one", y.against(1, 3), STATE);
+        Due.is("of the same one", y.against(0, 3), STATE);
+        Due.told(y, "C and A", y.against(2, 3), 0, NONE);
+    }
+
+    private static void familyOfSix() {
+        EmptyHouse x = Due.village("pha0-11pha0-11pha0-11pha0-11pha0-11pha0-0a11-11");
+        Due.told(x, "all six", x.family(63), 0x801, 2);
+        Due.told(x, "five", x.family(31), 0xFFF, 12);
+        Due.told(x, "the sixth", x.family(32), 0x801, 2);
+        Due.is("a seventh", x.family(64), -1);
+        Due.is("a seventh with the sixth", x.family(96), -1);
     }
 }

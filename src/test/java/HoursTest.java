@@ -9,8 +9,10 @@ public final class HoursTest {
         when();
         hour();
         judge();
+        judgeOrder();
         judgeRefused();
         worth();
+        worthOfWhatCannotBe();
         best();
         bestOfAlike();
         ways();
@@ -107,6 +109,40 @@ public final class HoursTest {
         judged(z, 3, 2, 0, 1, 0);
     }
 
+    /** "1, 2, 3 of one DEBT in this order", what is first amiss by debts, each at the later one of two. */
+    private static void judgeOrder() {
+        EmptyHouse houseFull = Due.village("pha0-5 pha0-5 ph dAB:1:0dAC:1:0");
+        judged(houseFull, 1, 1, 0, 0);
+        judged(houseFull, 1, 1, NONE, 0);
+        EmptyHouse debtorIn = Due.village("pha0-5 pha0-5 ph dAB:1:0dCB:1:0");
+        judged(debtorIn, 1, 1, 0, 0);
+        EmptyHouse alike = Due.village("pha0-5 pha0-5 dAB:1:0dAB:1:0dAB:1:0");
+        judged(alike, 2, 1, 0, 0, 0);
+        judged(alike, 2, 2, 0, 1, 0);
+        judged(alike, 2, 2, NONE, 1, 1);
+        judged(alike, 0, 0, 5, 4, 3);
+        judged(alike, 1, 0, 6, 6, 6);
+        EmptyHouse three = Due.village("pha0-5 pha0-5 pha0-5 pha0-5 dAB:1:0dCB:1:0dDB:1:0dAC:1:0");
+        judged(three, 3, 1, 0, 0, 11, 0);
+        judged(three, 3, 2, 0, 1, 1, 0);
+        judged(three, 3, 2, 0, 1, 0, 0);
+        judged(three, 2, 3, 0, 1, 2, 0);
+        judged(three, 1, 0, 11, 0, 0, 0);
+        judged(three, 0, 0, 0, 1, 2, 3);
+        // One may lay a sum in the hour in which a sum is laid into that one's house.
+        judged(Due.village("pha0-5 pha0-5 dAB:1:0dBA:1:0"), 0, 0, 3, 3);
+        EmptyHouse byLaw = Due.village("pha0-11 pka0-11 dAB:1:0");
+        byLaw.law(1);
+        judged(byLaw, 1, 0, 0);
+        judged(byLaw, 0, 0, 11);
+        byLaw.law(2);
+        judged(byLaw, 1, 0, 7);
+        judged(byLaw, 0, 0, 8);
+        byLaw.law(0);
+        byLaw.pay(0, 4);
+        judged(byLaw, 0, 0, 4);
+    }
+
     private static void judgeRefused() {
         EmptyHouse x = threePeople();
         Due.is("judge 6", x.judge(6), -1);
@@ -142,6 +178,19 @@ public final class HoursTest {
         Due.is("worth 6", x.worth(6), -1);
         Due.is("worth -1", x.worth(-1), -1);
         Due.is("refused: asked stays", x.asked(), 0);
+    }
+
+    private static void worthOfWhatCannotBe() {
+        EmptyHouse x = Due.village("pha0-5 pha0-5 pha0-5 dAB:1:0dCB:1:0dAC:1:0");
+        int[][] rounds = {{6, NONE, NONE}, {0, NONE, 0}, {0, 0, NONE}, {NONE, NONE, 11}};
+        for (int[] round : rounds) {
+            Due.round(x, 0, round);
+            Due.is("it can't be", x.judge(0) > 0 ? 1 : 0, 1);
+            int told = x.asked();
+            Due.finding(x, "worth of it", x.worth(0), UNLIKE);
+            Due.is("asked behind it", x.asked(), told);
+        }
+        Due.is("each of them was told", x.findings(UNLIKE), rounds.length);
     }
 
     private static void best(EmptyHouse x, int paid, int costs, int... hours) {
@@ -196,6 +245,9 @@ public final class HoursTest {
         ways("pha4-4 pha4-4 dAB:5:3dAB:5:2", 1);
         ways("pha0-11 pha0-11 pha0-11 pha0-11 pha0-11 pha0-11 dAB:1:0dBC:1:0dCD:1:0dDE:1:0dEF:1:0dFA:1:0", 2985984);
         ways("pha0-11 pha0-11 dAB:5:0dAB:5:0dAB:5:0dAB:5:0dAB:5:0dAB:5:0dAB:5:0dAB:5:0", 19958400);
+        // AC goes neither with AB nor with BC, DF neither with DE nor with EF; CD and FA go with all.
+        ways("pha0-11pha0-11pha0-11pha0-11pha0-11pha0-11 dAB:1:0dBC:1:0dCD:1:0dDE:1:0dEF:1:0dFA:1:0dAC:1:0dDF:1:0",
+            12L * 12 * (12 * 11 * 11) * (12 * 11 * 11));
     }
 
     private static void ways(String village, long due) {

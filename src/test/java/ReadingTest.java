@@ -12,6 +12,8 @@ public final class ReadingTest {
         refused();
         village();
         villageAnew();
+        villageLeavesRowsAndTexts();
+        greatestVillage();
         Due.end();
     }
 
@@ -213,5 +215,50 @@ public final class ReadingTest {
         Due.is("no debts", x.count(1), 0);
         Due.is("no debt", x.debt(0, 0), -1);
         Due.is("a new one has none", y.count(0), 0);
+    }
+
+    /** A village anew is one of people, debts, law and books; rows, texts and what was told stay. */
+    private static void villageLeavesRowsAndTexts() {
+        EmptyHouse x = Due.village("pha0-5 pha3-9 dAB:50:0");
+        Due.round(x, 2, 7, 8, 9);
+        x.ways();
+        x.mean(2);
+        x.at(5, 0);
+        for (int k = 0; k < 3; k++) {
+            x.keep(k);
+        }
+        x.habit(0, 11, 1);
+        x.cards(1, 0);
+        Due.is("village anew", x.village(0), 2);
+        Due.is("asked stays", x.asked(), 8);
+        Due.is("upper stays", x.upper(), 3);
+        Due.is("the finding stays", x.finding(), NOTHING);
+        Due.told(x, "the row stays", x.at(2, 2), 1, 9);
+        Due.is("the text stays", x.put(0, 0, 'p'), 1000 + 'p');
+        Due.told(x, "habits are as in the text", x.one(0, 2), 1, 0x03F);
+        Due.told(x, "cards are 5", x.one(1, 3), 1, 5);
+        for (int k = 0; k < 3; k++) {
+            Due.finding(x, "no book is kept in " + k, x.on(k), NOTHING);
+        }
+        x.put(0, 0, 'x');
+        Due.told(x, "the village stays when its text is changed", x.debt(0, 2), 1, 50);
+        Due.is("nor is it changed by the fault", x.fault(0), 0);
+        Due.told(x, "the village stays", x.debt(0, 2), 1, 50);
+        Due.is("a text of none", x.text(1, 0), 0);
+        Due.is("a village of none", x.village(1), 0);
+        Due.is("nobody", x.one(0, 0), EmptyHouse.BAD);
+    }
+
+    /** Six people and eight debts fill a text of 120 to its last byte. */
+    private static void greatestVillage() {
+        String text = "pha10-11 pha10-11 pha10-11 pha10-11 pha0-1pha0-1 "
+            + "dAB:99:9 dBC:99:9 dCD:99:9 dDE:99:9 dEF:99:9 dFA:99:9 dAC:99:9 dAD:99:9";
+        Due.is("its size", text.length(), 120);
+        fault(text, NONE);
+        EmptyHouse x = Due.village(text);
+        Due.is("people", x.count(0), 6);
+        Due.is("debts", x.count(1), 8);
+        Due.told(x, "the last debt", x.debt(7, 3), 1, 9);
+        Due.told(x, "all at their dearest", x.paid(), 0, 8 * (99 + 108));
     }
 }

@@ -4,14 +4,19 @@ public final class RowsTest {
 
     public static void main(String[] args) {
         newObject();
+        newObjectAnswers();
         row();
+        rowAnew();
         layAndAt();
         tear();
         copy();
         copyRefused();
+        copyAllOfSixty();
         mean();
+        meanIsCut();
         text();
         put();
+        putIsCut();
         Due.end();
     }
 
@@ -38,6 +43,45 @@ public final class RowsTest {
         for (int f = 1; f <= 5; f++) {
             Due.is("new: findings " + f, fresh.findings(f), 0);
         }
+    }
+
+    /** Without people and debts each call of a village answers as for none. */
+    private static void newObjectAnswers() {
+        EmptyHouse x = new EmptyHouse();
+        for (int t = 0; t < 12; t++) {
+            Due.told(x, "new: hour " + t, x.hour(t), 0, 0);
+            Due.told(x, "new: few at " + t, x.few(t, 1), EmptyHouse.NONE, 0);
+        }
+        Due.told(x, "new: best", x.best(4), 0, 0);
+        Due.is("new: the best round is a row of none", x.row(4, 0), 0);
+        Due.told(x, "new: judge", x.judge(4), 0, 0);
+        Due.told(x, "new: worth", x.worth(4), 0, 0);
+        Due.told(x, "new: liars", x.liars(4), 0, 0);
+        Due.told(x, "new: soonest", x.soonest(), 0, 0);
+        Due.told(x, "new: rings", x.rings(), 0, 0);
+        Due.told(x, "new: call", x.call(), EmptyHouse.NONE, 0);
+        Due.told(x, "new: paid", x.paid(), 0, 0);
+        Due.is("new: ways", x.ways(), 1);
+        Due.is("new: one way, to pay nothing", x.upper(), 1);
+        Due.is("new: keep", x.keep(0), 0);
+        Due.is("new: on", x.on(0), 0);
+        Due.is("new: on another place is a finding", x.on(1), EmptyHouse.FINDING);
+        x.row(5, 1);
+        Due.finding(x, "new: judge of a row of one", x.judge(5), SIZE);
+    }
+
+    /** A row anew has 0 in all its places, whatever stood in a longer or a shorter one. */
+    private static void rowAnew() {
+        EmptyHouse x = new EmptyHouse();
+        for (int n : new int[] {60, 1, 60, 0, 60, 59, 60}) {
+            Due.is("row of " + n, x.row(3, n), n);
+            for (int i = 0; i < n; i++) {
+                Due.told(x, "lay behind row of " + n, x.lay(3, i, 100 + i), 1, 0);
+            }
+            Due.finding(x, "lay behind its end", x.lay(3, n, 1), BEYOND);
+        }
+        Due.is("one row is there", x.count(6), 1);
+        Due.finding(x, "the others are missing", x.at(2, 0), NOTHING);
     }
 
     private static void row() {
@@ -140,6 +184,48 @@ public final class RowsTest {
         }
     }
 
+    private static void copyAllOfSixty() {
+        EmptyHouse x = new EmptyHouse();
+        x.row(0, 60);
+        x.row(1, 60);
+        for (int i = 0; i < 60; i++) {
+            x.lay(0, i, i + 1);
+        }
+        Due.is("copy sixty", x.copy(0, 0, 1, 0, 60), 1);
+        Due.is("copy sixty onto themselves", x.copy(0, 0, 0, 0, 60), 1);
+        Due.is("copy one place back", x.copy(0, 0, 0, 1, 59), 1);
+        Due.is("copy two places ahead", x.copy(1, 2, 1, 0, 58), 1);
+        for (int i = 0; i < 60; i++) {
+            Due.told(x, "one back, place " + i, x.at(0, i), 1, Math.max(1, i));
+            Due.told(x, "two ahead, place " + i, x.at(1, i), 1, i < 58 ? i + 3 : i + 1);
+        }
+        Due.is("copy is not told by asked", x.copy(0, 0, 1, 0, 1) + x.asked(), 1 + 60);
+    }
+
+    private static void meanOf(int due, int... row) {
+        EmptyHouse x = new EmptyHouse();
+        Due.round(x, 0, row);
+        Due.told(x, "mean of " + java.util.Arrays.toString(row), x.mean(0), 1, due);
+    }
+
+    private static void meanIsCut() {
+        meanOf(0, -1, 0);
+        meanOf(0, 1, 0);
+        meanOf(0, -2, 0, 0);
+        meanOf(-1, -3, 0);
+        meanOf(1, 3, 0);
+        meanOf(0, Integer.MAX_VALUE, Integer.MIN_VALUE);
+        meanOf(-1, Integer.MIN_VALUE, Integer.MAX_VALUE, -2);
+        meanOf(Integer.MAX_VALUE - 1, Integer.MAX_VALUE, Integer.MAX_VALUE - 1);
+        int[] sixty = new int[60];
+        java.util.Arrays.fill(sixty, Integer.MIN_VALUE);
+        meanOf(Integer.MIN_VALUE, sixty);
+        java.util.Arrays.fill(sixty, Integer.MAX_VALUE);
+        meanOf(Integer.MAX_VALUE, sixty);
+        sixty[59]--;
+        meanOf(Integer.MAX_VALUE - 1, sixty);
+    }
+
     private static void mean() {
         EmptyHouse x = new EmptyHouse();
         Due.round(x, 0, 1, 2, 5);
@@ -196,5 +282,20 @@ public final class RowsTest {
         Due.finding(x, "put beyond", x.put(2, 2, 0), BEYOND);
         Due.finding(x, "put ahead", x.put(2, -1, 0), BEYOND);
         Due.is("put is not told by asked", x.asked(), 0);
+    }
+
+    /** What was put is told as the byte that it is by the next one. */
+    private static void putIsCut() {
+        int[] put = {0, 127, 128, 129, 255, 256, 257, 383, 384, -1, -128, -129, -256, -257, 1000, Integer.MAX_VALUE,
+            Integer.MIN_VALUE};
+        int[] bytes = {0, 127, -128, -127, -1, 0, 1, 127, -128, -1, -128, 127, 0, -1, -24, -1, 0};
+        EmptyHouse x = new EmptyHouse();
+        x.text(3, 120);
+        int was = 32;
+        for (int i = 0; i < put.length; i++) {
+            Due.is("put " + put[i], x.put(3, 119, put[i]), 1000 + was);
+            was = bytes[i];
+        }
+        Due.is("put at last", x.put(3, 119, 0), 1000 + was);
     }
 }

@@ -4,6 +4,7 @@ public final class ToldTest {
 
     public static void main(String[] args) {
         asked();
+        askedByEach();
         upperAndLower();
         count();
         findings();
@@ -52,6 +53,35 @@ public final class ToldTest {
         Due.is("neither refused nor NONE", x.asked(), 0x3F8);
         x.debt(0, 2);
         Due.is("debt", x.asked(), 50);
+    }
+
+    /** Each of the eighteen calls that tell something by asked(), none told twice in a row. */
+    private static void askedByEach() {
+        EmptyHouse x = Due.village("pha0-5 pka3-9 dAB:50:1dBA:9:8");
+        Due.round(x, 0, 3, 4);
+        Due.told(x, "lay", x.lay(0, 1, 5), 1, 4);
+        Due.told(x, "at", x.at(0, 1), 1, 5);
+        Due.told(x, "worth", x.worth(0), 53 + 49, 6);
+        Due.told(x, "mean", x.mean(0), 1, 4);
+        Due.told(x, "one", x.one(0, 2), 1, 0x03F);
+        Due.told(x, "debt", x.debt(0, 2), 1, 50);
+        Due.told(x, "hour", x.hour(3), 3, 2);
+        Due.told(x, "best", x.best(1), 2, 53 + 33);
+        Due.told(x, "judge", x.judge(1), 0, 0);
+        Due.told(x, "soonest", x.soonest(), 4, 86);
+        Due.told(x, "rings", x.rings(), 3, 2);
+        Due.told(x, "few", x.few(10, 1), 2, 3);
+        Due.told(x, "call", x.call(), 100, 27 - 5);
+        Due.told(x, "stay", x.stay(0), 3, 8);
+        Due.told(x, "against", x.against(0, 1), 41, 0);
+        Due.told(x, "family", x.family(3), 0x038, 3);
+        Due.told(x, "paid", x.paid(), 0, 62 + 105);
+        x.lay(0, 0, 11);
+        Due.told(x, "liars", x.liars(0), 3, 2);
+        x.lay(0, 0, 6);
+        Due.told(x, "judge of what can't be", x.judge(0), 1, 0);
+        Due.told(x, "one whose house is not shared", x.one(0, 1), 1, NONE);
+        Due.told(x, "debt that is not paid", x.debt(1, 4), 1, NONE);
     }
 
     private static void upperAndLower() {
