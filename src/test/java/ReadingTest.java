@@ -12,6 +12,7 @@ public final class ReadingTest {
         refused();
         village();
         villageAnew();
+        villageAnewEachTime();
         villageLeavesRowsAndTexts();
         greatestVillage();
         Due.end();
@@ -215,6 +216,31 @@ public final class ReadingTest {
         Due.is("no debts", x.count(1), 0);
         Due.is("no debt", x.debt(0, 0), -1);
         Due.is("a new one has none", y.count(0), 0);
+    }
+
+    /** "Anew; CARDS 5, LAW 0, nothing PAID, no BOOK kept", as often as it is asked for. */
+    private static void villageAnewEachTime() {
+        EmptyHouse x = Due.village("pha0-5 pmAa3-9 dAB:50:1");
+        Due.write(x, 1, "pya0-11 pka3-9 ps dCB:7:9dAC:1:1");
+        for (int turn = 0; turn < 6; turn++) {
+            int t = turn % 2;
+            Due.is("village by text " + t, x.village(t), t == 0 ? 2 : 3);
+            Due.is("its debts", x.count(1), t == 0 ? 1 : 2);
+            Due.is("its law", x.law(3), 0);
+            Due.is("nothing is paid", x.count(2), 0);
+            Due.is("no book is kept", x.count(5), 0);
+            for (int p = 0; p < 2; p++) {
+                Due.is("its cards", x.cards(p, 70 + turn), 5);
+                Due.told(x, "its habits", x.one(p, 2), 1, p == 1 ? 0x3F8 : t == 0 ? 0x03F : 0xFFF);
+                x.habit(p, 3, 0);
+                x.habit(p, 1, 1);
+            }
+            Due.told(x, "with whom it is shared", x.one(1, 1), 1, t == 0 ? 0 : NONE);
+            Due.is("pay the last debt", x.pay(t, 4 + 4 * t), t == 0 ? EmptyHouse.STATE : 9);
+            x.law(0);
+            Due.is("pay the first debt", x.pay(0, 4), t == 0 ? 54 : EmptyHouse.STATE);
+            x.keep(turn % 3);
+        }
     }
 
     /** A village anew is one of people, debts, law and books; rows, texts and what was told stay. */
