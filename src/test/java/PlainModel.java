@@ -120,7 +120,7 @@ final class PlainModel {
         return end;
     }
 
-    private static boolean better(Round a, Round b) {
+    static boolean better(Round a, Round b) {
         if (a.paid() != b.paid()) {
             return a.paid() > b.paid();
         }
