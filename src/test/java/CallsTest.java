@@ -11,6 +11,8 @@ public final class CallsTest {
         lastCallOfAll();
         stay();
         stayAtTheEdges();
+        allEightDebts();
+        stayChangesEarlierHours();
         against();
         againstChangesNothing();
         family();
@@ -159,6 +161,34 @@ public final class CallsTest {
         Due.told(w, "in at 3 rather than at 2", w.stay(1), 3, 2);
         w.pay(0, 3);
         Due.told(w, "whatever is paid", w.stay(1), 3, 2);
+    }
+
+    /** A owes B eight sums, of interest 1 to 8, and lays one in an hour: the dearer the sooner, from hour 1 on. */
+    private static void allEightDebts() {
+        EmptyHouse x = Due.village("pha1-11pha0-11 dAB:1:1dAB:1:2dAB:1:3dAB:1:4dAB:1:5dAB:1:6dAB:1:7dAB:1:8");
+        Due.told(x, "A at 0: each comes an hour sooner", x.call(), 0, 36 - 5);
+        x.cards(0, 40);
+        Due.told(x, "all the same, though it costs more than it saves", x.call(), 0, 36 - 40);
+        // In at 1 all eight come an hour later; in at a later hour only those from that hour on.
+        Due.told(x, "B in at 1", x.stay(1), 1, 36);
+        x.habit(1, 1, 0);
+        Due.told(x, "B in at 2", x.stay(1), 2, 36);
+        x.habit(1, 11, 0);
+        Due.told(x, "B in at 2, out until 10", x.stay(1), 2, 36);
+        // Eight sums have only eight hours left now: in at 2 B goes without the one of interest 1, that is 1 and 9.
+        x.habit(1, 10, 0);
+        Due.told(x, "B in at 2, seven of eight", x.stay(1), 2, 35 - 10);
+    }
+
+    /** B in at 3 must lay B's own sum at C's in 5, so D lays C's in 1 and B's only in 5. */
+    private static void stayChangesEarlierHours() {
+        EmptyHouse x = Due.village("pha1-1 plAa3-3a5-5 pha1-1a3-3a5-5 pha1-1a5-5 dDB:10:3dDC:10:1dBC:10:1");
+        Due.told(x, "B in at 3", x.stay(1), 3, 4 * 3);
+        x.habit(1, 3, 0);
+        x.best(0);
+        Due.told(x, "D pays B in 5", x.at(0, 0), 1, 5);
+        Due.told(x, "D pays C in 1", x.at(0, 1), 1, 1);
+        Due.told(x, "B pays C in 5", x.at(0, 2), 1, 5);
     }
 
     private static void stay() {

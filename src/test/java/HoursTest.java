@@ -15,6 +15,8 @@ public final class HoursTest {
         worthOfWhatCannotBe();
         best();
         bestOfAlike();
+        roundsOfEight();
+        roundsOfAnotherVillage();
         ways();
         soonest();
         Due.end();
@@ -232,6 +234,40 @@ public final class HoursTest {
         best(Due.village("pha2-7 pha2-7 pha2-7 dAB:5:3dAC:5:3"), 2, 10 + 6 + 9, 2, 3);
         // Only one can be paid: debt 1 alone in hour 4 is more than debt 0 alone.
         best(Due.village("pha4-4 pha4-4 dAB:5:3dAB:5:3"), 1, 5 + 12 + 5 + 36, 4, NONE);
+    }
+
+    /** Eight debts of one to one: the dearer the sooner, and no hour for more than one. */
+    private static void roundsOfEight() {
+        EmptyHouse x = Due.village("pha0-11pha0-11 dAB:1:1dAB:1:2dAB:1:3dAB:1:4dAB:1:5dAB:1:6dAB:1:7dAB:1:8");
+        int costs = 8 + 7 + 2 * 6 + 3 * 5 + 4 * 4 + 5 * 3 + 6 * 2 + 7;
+        best(x, 8, costs, 7, 6, 5, 4, 3, 2, 1, 0);
+        Due.told(x, "soonest", x.soonest(), 8, costs);
+        x.ways();
+        Due.is("one way", x.upper(), 1);
+        // Only the hours 8 to 11 are left: the four of most interest are paid.
+        x.law(2);
+        int late = 8 + 8 * 8 + 9 * 7 + 10 * 6 + 11 * 5 + 12 * (4 + 3 + 2 + 1);
+        best(x, 4, late, NONE, NONE, NONE, NONE, 11, 10, 9, 8);
+        Due.told(x, "soonest of four", x.soonest(), 12, late);
+    }
+
+    /** What was found for a greater village does not linger in a lesser one, nor the other way round. */
+    private static void roundsOfAnotherVillage() {
+        EmptyHouse x = Due.village("pha0-0 pha0-0 ph dAB:1:0dAC:1:9dCB:1:9");
+        best(x, 1, 3 + 108 + 108, 0, NONE, NONE);
+        Due.write(x, 0, "pha2-3 pha2-3 dAB:1:1");
+        x.village(0);
+        best(x, 1, 3, 2);
+        Due.told(x, "soonest", x.soonest(), 3, 3);
+        x.ways();
+        Due.is("one way", x.upper(), 1);
+        Due.told(x, "A at 0 is not worth it, nor is any other", x.call(), 0, -5);
+        Due.write(x, 0, "");
+        x.village(0);
+        best(x, 0, 0);
+        Due.write(x, 0, "pha0-0 pha0-0 ph dAB:1:0dAC:1:9dCB:1:9");
+        x.village(0);
+        best(x, 1, 3 + 108 + 108, 0, NONE, NONE);
     }
 
     private static void ways() {
